@@ -1,0 +1,69 @@
+import java.nio.charset.StandardCharsets;
+import java.util.NoSuchElementException;
+
+/** Counts answers that are not as due, and brings texts onto THE TAPE. */
+final class Check {
+    /** Stands for an exception in a row of answers. */
+    static final long THROWS = Long.MIN_VALUE;
+    private int asked;
+    private int wrong;
+    private int promise;
+
+    void promise(int number) {
+        promise = number;
+    }
+
+    void due(String call, long got, long want) {
+        asked++;
+        if (got != want) {
+            wrong++;
+            System.out.println("promise " + promise + ": " + call + " answered " + got + ", due is " + want);
+        }
+    }
+
+    void due(String call, boolean got, boolean want) {
+        due(call, got ? 1 : 0, want ? 1 : 0);
+    }
+
+    /** Feeds a text, with blanks behind it up to twenty bytes. */
+    static void feed(FigureKnee x, String text) {
+        byte[] bytes = text.getBytes(StandardCharsets.ISO_8859_1);
+        for (int from = 0; from < bytes.length; from += 20) {
+            int[] row = new int[5];
+            for (int i = 0; i < 20; i++) {
+                int sign = from + i < bytes.length ? bytes[from + i] & 255 : ' ';
+                row[i / 4] = row[i / 4] << 8 | sign;
+            }
+            x.feed(row[0], row[1], row[2], row[3], row[4]);
+        }
+    }
+
+    static int pier(FigureKnee x, String text) {
+        feed(x, text);
+        return x.pier(text.length());
+    }
+
+    static FigureKnee of(String text) {
+        FigureKnee x = new FigureKnee();
+        if (pier(x, text) < 0) {
+            throw new IllegalStateException(x.fault() + " at " + x.where() + ": " + text);
+        }
+        return x;
+    }
+
+    static long led(FigureKnee x, int i) {
+        try {
+            return x.led(i);
+        } catch (NoSuchElementException e) {
+            return THROWS;
+        }
+    }
+
+    /** Ends the program with exit code 1 if an answer was not as due. */
+    void end() {
+        System.out.println(wrong == 0 ? asked + " answers are as due" : wrong + " of " + asked + " answers are not as due");
+        if (wrong != 0) {
+            System.exit(1);
+        }
+    }
+}
