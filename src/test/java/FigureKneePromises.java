@@ -158,6 +158,18 @@ public final class FigureKneePromises {
         due("pair(0, 4)", x.pair(0, 4), 0);
         due("pair(0, 1)", x.pair(0, 1), 4);
         refused(x, "pair(1, 0)", x.pair(1, 0), -1, 1);
+        due("pier behind trouble", Check.pier(x, FOUR), 4);
+        due("trouble()", x.trouble(), 0);
+        // nothing of a pier is left, however many came ahead of it
+        Check.pier(x, FOUR);
+        Check.pier(x, FOUR);
+        due("pier once more", Check.pier(x, "pier words 4 dumb 1;pair a leaping figure 4 step 2;pair b leaping figure 4 step 2"), 2);
+        int[] sizes = {4, 1, 2, 0, 0, 0, 0, 0, 0, 0, 0};
+        for (int what = 0; what <= 10; what++) {
+            due("size(" + what + ")", x.size(what), sizes[what]);
+        }
+        due("owes(0, 1)", x.owes(0, 1), 0);
+        due("pair(0, 4)", x.pair(0, 4), 0);
         refused(x, "pier(0)", x.pier(0), -1, 4);
         due("fault()", x.fault(), 1);
         due("where()", x.where(), 0);
@@ -191,6 +203,12 @@ public final class FigureKneePromises {
         good(HEAD + "pair every leaping figure 0 step 0;pair season leaping figure 0 step 0;"
             + "contract every every 1;heard season season 1 figure 0", 2);
         good(FOUR, 4);
+        good(HEAD + "pair za leaping figure 0 step 0;pair az leaping figure 0 step 0;contract za every 1", 2);
+        faultAt("!bier words 2 dumb 0", 1);
+        faultAt("pier !xords 2", 1);
+        faultAt(HEAD + "!bair a", 1);
+        faultAt(HEAD + "!pairs a", 1);
+        faultAt(HEAD + "pair a !ceeping", 1);
         faultAt("!", 1);
         faultAt("   !", 1);
         faultAt("!foo", 1);
@@ -437,7 +455,28 @@ public final class FigureKneePromises {
         due("settles(0)", leap.settles(0), 3);
         due("round(0)", leap.round(0), 9);
 
+        check.promise(14);
+        due("roundMost(1)", x.roundMost(1), 10);
+        due("roundMost(0)", x.roundMost(0), 7);
+        due("roundMost(0)", leap.roundMost(0), 6);
+        check.promise(15);
+        due("roundLeast(1)", x.roundLeast(1), 10);
+        due("roundLeast(0)", x.roundLeast(0), 0);
+        due("roundLeast(0)", leap.roundLeast(0), 0);
+        FigureKnee wide = Check.of("pier words 99 dumb 0;pair a creeping figure 99 step 0;contract a every 9");
+        check.promise(12);
+        due("round(0)", wide.round(0), 18);
         check.promise(13);
+        for (int n : new int[] {0, 8, 18, 26, 36, 1800000008}) {
+            due("saysLate(0, " + n + ")", wide.saysLate(0, n), 99);
+            due("saysLate(0, " + (n + 9) + ")", wide.saysLate(0, n + 9), 0);
+        }
+        int[] leaps = {1, 3, 6, 6, 6, 6, 6, 6, 6, 0, 1, 3, 6, 6, 6, 6, 6, 6, 0, 1, 3};
+        for (int n = 0; n < leaps.length; n++) {
+            due("saysLate(0, " + n + ")", leap.saysLate(0, n), leaps[n]);
+        }
+        due("saysLate(0, 2000000000)", leap.saysLate(0, 2000000000), 3);
+
         int[] round = {0, 3, 6, 1, 4, 7};
         for (int n : new int[] {3, 4, 8, 9, 60, 1000, 999999999, 2000000000}) {
             due("saysLate(0, " + n + ")", x.saysLate(0, n), round[(n - 3) % 6]);
@@ -539,6 +578,8 @@ public final class FigureKneePromises {
         // old behind two seasons: none 1; 1: 9 5>5 1>9; 2: 9 5 1>9; the least such is 1
         due("everyFor(2, 2)", x.everyFor(2, 2), 1);
         due("everyFor(0, 0)", x.everyFor(0, 0), 0);
+        // fading from 4 to 0, and changed over at the very last
+        due("everyFor(0, 9)", Check.of("pier words 4 dumb 0;pair a fading figure 4 step 1").everyFor(0, 9), 9);
         refused(x, "everyFor(0, 61)", x.everyFor(0, 61), -1, 2);
         refused(x, "everyFor(4, 0)", x.everyFor(4, 0), -1, 1);
         check.promise(24);
@@ -592,6 +633,15 @@ public final class FigureKneePromises {
         due("fits()", no.fits(), 0);
         due("trouble()", no.trouble(), 0);
         due("fits()", plain.fits(), 1);
+        due("fits()", Check.of(STEPS + "unsure b 3;heard a season 1 figure 5").fits(), 0);
+        due("fits()", Check.of(STEPS + "unsure a 3;heard a season 1 figure 3;heard a season 2 figure 5").fits(), 0);
+        FigureKnee only = Check.of(STEPS + "unsure a 3;heard a season 1 figure 3");
+        due("fits()", only.fits(), 1);
+        check.promise(29);
+        due("could()", only.could(), 1);
+        check.promise(30);
+        due("surely()", only.surely(), 1);
+        check.promise(27);
         due("fits()", Check.of(FOUR).fits(), 1);
         refused(none, "fits()", none.fits(), -1, 1);
         check.promise(28);
@@ -646,10 +696,13 @@ public final class FigureKneePromises {
         FigureKnee wrong = Check.of(STEPS + "unsure a 3;heard b season 2 figure 4;heard a season 1 figure 3;"
             + "heard c season 30 figure 2;heard a season 2 figure 0");
         due("judge()", wrong.judge(), 1);
+        FigureKnee first = Check.of(STEPS + "heard b season 2 figure 1");
+        due("judge()", first.judge(), 0);
         refused(none, "judge()", none.judge(), -1, 1);
         check.promise(34);
         due("third(0)", wrong.third(0), 2 + 2);
         due("third(1)", wrong.third(1), 0);
+        due("third(1)", first.third(1), 3);
         due("third(2)", wrong.third(2), 2);
         refused(wrong, "third(3)", wrong.third(3), -1, 1);
         refused(none, "third(0)", none.third(0), -1, 1);
@@ -688,6 +741,7 @@ public final class FigureKneePromises {
         }
         refused(x, "net(4)", x.net(4), -1000000, 1);
         check.promise(37);
+        due("due()", Check.of(FOUR).due(), 4);
         due("due()", x.due(), 4);
         refused(none, "due()", none.due(), -1, 1);
         check.promise(38);
@@ -703,6 +757,9 @@ public final class FigureKneePromises {
         due("payments()", Check.of(five("ab3cd4")).payments(), 2);
         due("payments()", Check.of(five("ab3bc4cd5de6")).payments(), 4);
         due("payments()", Check.of(five("ab1ac2ad3ae4")).payments(), 4);
+        // groups of three and of two
+        due("payments()", Check.of(five("ab2ac3de1")).payments(), 3);
+        due("payments()", Check.of(five("ad2bc1ec2")).payments(), 3);
         // nets -3 -2 3 2 0: two groups of two
         due("payments()", Check.of(five("ac2ad1bc1bd1")).payments(), 2);
         x.pay(3, 0, 4);
@@ -879,6 +936,8 @@ public final class FigureKneePromises {
         for (int n = 0; n <= 4; n++) {
             due("drawn(1, 0, " + n + ")", x.drawn(1, 0, n), wife[n]);
         }
+        due("drawn(0, 0, 1)", Check.of("pier words 9 dumb 74;pair a creeping figure 3 step 1").drawn(0, 0, 1), 4);
+        due("drawn(0, 0, 1)", Check.of("pier words 9 dumb 75;pair a creeping figure 3 step 1").drawn(0, 0, 1), 3);
         // coker: 2, 5, dumb 5, 8 and changed over 2
         due("drawn(0, 0, 3)", x.drawn(0, 0, 3), 2);
         due("drawn(0, 0, 3) of dumb ones", mute.drawn(0, 0, 3), 7);
@@ -950,6 +1009,10 @@ public final class FigureKneePromises {
         refused(x, "pay(0, 0, 0)", x.pay(0, 0, 0), -1, 1);
         refused(x, "pay(0, 4, 1)", x.pay(0, 4, 1), -1, 1);
         refused(none, "pay(0, 1, 1)", none.pay(0, 1, 1), -1, 1);
+        FigureKnee much = Check.of(five("").concat(";debt e d 99"));
+        due("pay(4, 3, 99)", much.pay(4, 3, 99), 0);
+        due("undo()", much.undo(), true);
+        due("owes(4, 3)", much.owes(4, 3), 99);
         due("size(4) as told", x.size(4), 4);
         due("size(8)", x.size(8), 4);
     }
