@@ -1096,13 +1096,9 @@ public final class FigureKnee {
             return whole >= least && whole <= most || found(OUT_OF_BOUNDS);
         }
 
-        private boolean seesName() {
-            return kind == WORD && !isHeadOfLine() || found(FORM);
-        }
-
         private boolean seesPair() {
-            if (!seesName()) {
-                return false;
+            if (kind != WORD || isHeadOfLine()) {
+                return found(FORM);
             }
             return pairOfName() >= 0 || found(NOT_TOLD);
         }
@@ -1152,8 +1148,8 @@ public final class FigureKnee {
                 return found(MANY);
             }
             next();
-            if (!seesName()) {
-                return false;
+            if (kind != WORD || isHeadOfLine()) {
+                return found(FORM);
             }
             if (pairOfName() >= 0) {
                 return found(TOLD_AGAIN);
@@ -1513,8 +1509,10 @@ public final class FigureKnee {
 
         void find(Pier told) {
             count = 0;
-            if (!sureOnesFit(told)) {
-                return;
+            for (int p = 0; p < told.pairs; p++) {
+                if (!told.isUnsure(p) && !fitsHeard(told, p, told.steps[p])) {
+                    return;
+                }
             }
             for (int u = 0; u < told.unsures; u++) {
                 int p = told.unsurePairs[u];
@@ -1527,15 +1525,6 @@ public final class FigureKnee {
                     count++;
                 }
             }
-        }
-
-        private boolean sureOnesFit(Pier told) {
-            for (int p = 0; p < told.pairs; p++) {
-                if (!told.isUnsure(p) && !fitsHeard(told, p, told.steps[p])) {
-                    return false;
-                }
-            }
-            return true;
         }
 
         private boolean fitsHeard(Pier told, int p, int step) {

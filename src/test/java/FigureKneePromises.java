@@ -512,7 +512,7 @@ public final class FigureKneePromises {
         refused(x, "alikeIn(1, 4)", x.alikeIn(1, 4), -1, 1);
         refused(x, "alikeIn(-1, 0)", x.alikeIn(-1, 0), -1, 1);
         FigureKnee late = Check.of("pier words 99 dumb 0;pair a creeping figure 0 step 1;pair b fading figure 60 step 0;"
-            + "pair c fading figure 61 step 0;pair d creeping figure 0 step 0");
+            + "pair c fading figure 61 step 0;pair d creeping figure 0 step 0;pair e fading figure 59 step 0");
         due("alikeIn(0, 1)", late.alikeIn(0, 1), 60);
         due("alikeIn(0, 2)", late.alikeIn(0, 2), -2);
         due("alikeIn(0, 3)", late.alikeIn(0, 3), 0);
@@ -523,6 +523,7 @@ public final class FigureKneePromises {
         due("overtakes(1, 0)", x.overtakes(1, 0), 3);
         refused(x, "overtakes(1, 1)", x.overtakes(1, 1), -1, 1);
         refused(x, "overtakes(4, 1)", x.overtakes(4, 1), -1, 1);
+        due("overtakes(0, 4)", late.overtakes(0, 4), 60);
         due("overtakes(0, 1)", late.overtakes(0, 1), -2);
         due("overtakes(0, 3)", late.overtakes(0, 3), 1);
         due("overtakes(3, 0)", late.overtakes(3, 0), -2);
@@ -592,6 +593,8 @@ public final class FigureKneePromises {
         due("everyNever(0)", x.everyNever(0), 1);
         due("everyNever(1)", x.everyNever(1), -2);
         due("everyNever(2)", x.everyNever(2), 0);
+        // 0 1 3 6, changed over 0, and so on: every 3; by every 2 the 3 changes over to 3 and leaps to 6
+        due("everyNever(0)", Check.of("pier words 6 dumb 0;pair a leaping figure 0 step 1").everyNever(0), 3);
         refused(x, "everyNever(4)", x.everyNever(4), -1, 1);
         // seasons are numbered from the beginning, not from NOW
         FigureKnee later = Check.of(HEAD + "pair a creeping figure 1 step 0");
