@@ -1096,11 +1096,17 @@ public final class FigureKnee {
             return whole >= least && whole <= most || found(OUT_OF_BOUNDS);
         }
 
-        private boolean seesPair() {
+        /** The pair that the TOKEN names, without going on; NONE, with a FAULT, if it names none. */
+        private int seenPair() {
             if (kind != WORD || isHeadOfLine()) {
-                return found(FORM);
+                found(FORM);
+                return NONE;
             }
-            return pairOfName() >= 0 || found(NOT_TOLD);
+            int p = pairOfName();
+            if (p < 0) {
+                found(NOT_TOLD);
+            }
+            return p;
         }
 
         // ---- lines
@@ -1178,10 +1184,10 @@ public final class FigureKnee {
 
         private boolean readContract() {
             next();
-            if (!seesPair()) {
+            int p = seenPair();
+            if (p < 0) {
                 return false;
             }
-            int p = pairOfName();
             if (pier.everies[p] != 0) {
                 return found(TOLD_AGAIN);
             }
@@ -1200,15 +1206,15 @@ public final class FigureKnee {
                 return found(MANY);
             }
             next();
-            if (!seesPair()) {
+            int p = seenPair();
+            if (p < 0) {
                 return false;
             }
-            int p = pairOfName();
             next();
-            if (!seesPair()) {
+            int to = seenPair();
+            if (to < 0) {
                 return false;
             }
-            int to = pairOfName();
             if (to == p || pier.owed[p * PAIRS + to] != 0) {
                 return found(TOLD_AGAIN);
             }
@@ -1228,10 +1234,10 @@ public final class FigureKnee {
                 return found(MANY);
             }
             next();
-            if (!seesPair()) {
+            int p = seenPair();
+            if (p < 0) {
                 return false;
             }
-            int p = pairOfName();
             if (pier.isUnsure(p)) {
                 return found(TOLD_AGAIN);
             }
@@ -1252,10 +1258,10 @@ public final class FigureKnee {
                 return found(MANY);
             }
             next();
-            if (!seesPair()) {
+            int p = seenPair();
+            if (p < 0) {
                 return false;
             }
-            int p = pairOfName();
             next();
             if (!takeWord("season") || !seesWhole(1, 30)) {
                 return false;
