@@ -1448,13 +1448,10 @@ public final class FigureKnee {
                 walk.go();
                 state = stateOf(walk);
             }
-            // The states come again from here on; sayings alone may do so earlier and sooner.
+            // The states come again from here on; the sayings can't from earlier on, but behind fewer seasons.
             first = Math.max(0, seen[state]);
             length = Math.max(1, count - first);
             shortenRound();
-            while (first > 0 && values[first - 1] == values[first - 1 + length]) {
-                first--;
-            }
         }
 
         private static int stateOf(Walk walk) {

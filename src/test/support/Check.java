@@ -7,17 +7,31 @@ final class Check {
     static final long THROWS = Long.MIN_VALUE;
     private int asked;
     private int wrong;
-    private int promise;
+    private String place = "";
 
+    /** What is asked from here on belongs to a promise. */
     void promise(int number) {
-        promise = number;
+        place = "promise " + number;
+    }
+
+    /** What is asked from here on belongs to a sentence of the document. */
+    void sentence(String words) {
+        place = words;
     }
 
     void due(String call, long got, long want) {
         asked++;
         if (got != want) {
             wrong++;
-            System.out.println("promise " + promise + ": " + call + " answered " + got + ", due is " + want);
+            System.out.println(place + ": " + call + " answered " + got + ", due is " + want);
+        }
+    }
+
+    void due(String what, String got, String want) {
+        asked++;
+        if (!got.equals(want)) {
+            wrong++;
+            System.out.println(place + ": " + what + " is " + got + ", due is " + want);
         }
     }
 
