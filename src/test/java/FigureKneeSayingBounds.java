@@ -263,6 +263,8 @@ public final class FigureKneeSayingBounds {
         round(one(99, "fading", 99, 1, 0), 99, 1, 0, 0);
         // 9 again and again, changed over to 1 behind each ninth season: eighteen seasons a round
         round(one(10, "creeping", 1, 0, 9), 0, 18, 9, 1);
+        round(one(99, "creeping", 99, 0, 9), 0, 18, 99, 0);
+        round(one(2, "creeping", 2, 0, 9), 0, 18, 2, 0);
         // half of all words is half of them when both change over
         round(one(10, "creeping", 5, 0, 9), 0, 1, 5, 5);
         // 3 1 0 0 ..: what the contract does can't be seen any more
