@@ -1,13 +1,31 @@
-import java.nio.charset.StandardCharsets;
 import java.util.NoSuchElementException;
 
 /** Counts answers that are not as due, and brings texts onto THE TAPE. */
 final class Check {
     /** Stands for an exception in a row of answers. */
     static final long THROWS = Long.MIN_VALUE;
+    /** The longest test takes some ten seconds. */
+    private static final long LONGEST_MILLIS = 5 * 60 * 1000L;
     private int asked;
     private int wrong;
-    private String place = "";
+    private volatile String place = "";
+
+    /** A call that never answers must fail its test: nobody would see what was wrong with one that hangs. */
+    Check() {
+        Thread watch = new Thread(this::endLate);
+        watch.setDaemon(true);
+        watch.start();
+    }
+
+    private void endLate() {
+        try {
+            Thread.sleep(LONGEST_MILLIS);
+        } catch (InterruptedException e) {
+            return;
+        }
+        System.out.println(place + ": a call did not answer in time, or a test takes too long");
+        Runtime.getRuntime().halt(1);
+    }
 
     /** What is asked from here on belongs to a promise. */
     void promise(int number) {
@@ -39,14 +57,13 @@ final class Check {
         due(call, got ? 1 : 0, want ? 1 : 0);
     }
 
-    /** Feeds a text, with blanks behind it up to twenty bytes. */
+    /** Feeds a text, with blanks behind it up to twenty bytes; README.md shows this as it stands. */
     static void feed(FigureKnee x, String text) {
-        byte[] bytes = text.getBytes(StandardCharsets.ISO_8859_1);
-        for (int from = 0; from < bytes.length; from += 20) {
+        for (int from = 0; from < text.length(); from += 20) {
             int[] row = new int[5];
             for (int i = 0; i < 20; i++) {
-                int sign = from + i < bytes.length ? bytes[from + i] & 255 : ' ';
-                row[i / 4] = row[i / 4] << 8 | sign;
+                int sign = from + i < text.length() ? text.charAt(from + i) : ' ';
+                row[i / 4] = row[i / 4] << 8 | sign & 255;
             }
             x.feed(row[0], row[1], row[2], row[3], row[4]);
         }
